@@ -7,12 +7,18 @@ public final class InertialReference {
     public static final int FULL = -3;
     public static final int BUSY = -4;
 
+    private static final int MOST_GYRO_BIAS = 100000;
+    private static final int MOST_SCALE = 10000;
+    private static final int MOST_NOISE = 10000;
+    private static final int MOST_SLOPE = 1000;
+    private static final int MOST_ACCELEROMETER_BIAS = 10000000;
     private static final int WRONG_TEMPERATURE = -1000;
     private static final int COLDEST = -40;
     private static final int HOTTEST = 85;
     private static final int MOST_TURN = 4000000;
     private static final int MOST_EARTH_RATE = 65536;
     private static final int MOST_COMPENSATION = 1000000;
+    private static final int LAST_METHOD = 2;
     private static final int MOST_GAIN = 20;
     private static final int MOST_SEGMENT_TICKS = 1000;
     private static final int MOST_CALIBRATION_TICKS = 1000;
@@ -48,8 +54,8 @@ public final class InertialReference {
     // ---- the cluster and its motion
 
     public int setGyro(int axis, int bias, int scale, int noise, int slope) {
-        if (!Fixed.isAxis(axis) || !Fixed.isWithin(bias, 100000) || !Fixed.isWithin(scale, 10000)
-                || !Fixed.isBetween(noise, 0, 10000) || !Fixed.isWithin(slope, 1000)) {
+        if (!Fixed.isAxis(axis) || !Fixed.isWithin(bias, MOST_GYRO_BIAS) || !Fixed.isWithin(scale, MOST_SCALE)
+                || !Fixed.isBetween(noise, 0, MOST_NOISE) || !Fixed.isWithin(slope, MOST_SLOPE)) {
             return INVALID;
         }
         sensors.setGyroErrors(axis, bias, scale, noise, slope);
@@ -57,7 +63,7 @@ public final class InertialReference {
     }
 
     public int setAccelerometer(int axis, int bias) {
-        if (!Fixed.isAxis(axis) || !Fixed.isWithin(bias, 10000000)) {
+        if (!Fixed.isAxis(axis) || !Fixed.isWithin(bias, MOST_ACCELEROMETER_BIAS)) {
             return INVALID;
         }
         sensors.setAccelerometerBias(axis, bias);
@@ -132,7 +138,7 @@ public final class InertialReference {
     // ---- the estimator
 
     public int setMethod(int method) {
-        if (!Fixed.isBetween(method, 0, 2)) {
+        if (!Fixed.isBetween(method, 0, LAST_METHOD)) {
             return INVALID;
         }
         return estimator.changeMethod(method);

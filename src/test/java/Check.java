@@ -16,9 +16,9 @@ final class Check {
         }
     }
 
-    static void holds(String what, boolean true_) {
+    static void holds(String what, boolean answer) {
         asked++;
-        if (!true_) {
+        if (!answer) {
             wrong++;
             System.out.println(what + " does not hold");
         }
