@@ -42,6 +42,8 @@ public final class FaceTest {
                 Check.holds(method + " is public and of an object",
                         Modifier.isPublic(method.getModifiers()) && !Modifier.isStatic(method.getModifiers()));
                 seen.add(described(method));
+            } else {
+                Check.holds(method + " bears no name of the face", !publicNames().contains(method.getName()));
             }
         }
         Check.holds("the methods are the document's: " + seen, seen.equals(new TreeSet<>(Arrays.asList(METHODS))));
@@ -72,17 +74,13 @@ public final class FaceTest {
     }
 
     private static void inside(Class<?> face) {
-        Set<String> publicNames = new HashSet<>();
-        for (String method : METHODS) {
-            publicNames.add(method.substring(method.indexOf(' ') + 1, method.indexOf('(')));
-        }
         Class<?>[] classes = face.getDeclaredClasses();
         Check.holds("at most twelve classes", classes.length + 1 <= 12);
         for (Class<?> part : classes) {
             Check.holds(part + " is static and not public",
                     Modifier.isStatic(part.getModifiers()) && !Modifier.isPublic(part.getModifiers()));
             for (Method method : part.getDeclaredMethods()) {
-                Check.holds(method + " bears no name of the face", !publicNames.contains(method.getName()));
+                Check.holds(method + " bears no name of the face", !publicNames().contains(method.getName()));
                 Check.holds(method + " takes at most seven parameters", method.getParameterCount() <= 7);
             }
             for (Field field : part.getDeclaredFields()) {
@@ -90,5 +88,13 @@ public final class FaceTest {
                         !Modifier.isStatic(field.getModifiers()) || Modifier.isFinal(field.getModifiers()));
             }
         }
+    }
+
+    private static Set<String> publicNames() {
+        Set<String> names = new HashSet<>();
+        for (String method : METHODS) {
+            names.add(method.substring(method.indexOf(' ') + 1, method.indexOf('(')));
+        }
+        return names;
     }
 }
