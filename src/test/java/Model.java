@@ -450,6 +450,26 @@ final class Model {
         return product;
     }
 
+    /** For tests by hand: a quaternion's parts after a turn, by method 1 (fine) or 0. */
+    static long[] turnedParts(long[] parts, long x, long y, long z, boolean fine) {
+        BigInteger[] q = {big(parts[0]), big(parts[1]), big(parts[2]), big(parts[3])};
+        return numbers(turned(q, vector(x, y, z), fine));
+    }
+
+    /** For tests by hand: a navigation vector, seen from a body with this attitude. */
+    static long[] inBody(long[] parts, long x, long y, long z) {
+        BigInteger[] q = {big(parts[0]), big(parts[1]), big(parts[2]), big(parts[3])};
+        return numbers(toBody(q, vector(x, y, z)));
+    }
+
+    private static long[] numbers(BigInteger[] row) {
+        long[] numbers = new long[row.length];
+        for (int k = 0; k < row.length; k++) {
+            numbers[k] = row[k].longValueExact();
+        }
+        return numbers;
+    }
+
     private static BigInteger angle(BigInteger[] p, BigInteger[] q) {
         BigInteger[] product = times(new BigInteger[] {p[0], p[1].negate(), p[2].negate(), p[3].negate()}, q);
         return length(new BigInteger[] {product[1], product[2], product[3]}).shiftLeft(1);

@@ -56,22 +56,22 @@ public final class ShelfTest {
         InertialReference r = new InertialReference();
         r.turnEstimate(400000, -300000, 200000);
         r.store(3);
-        long[] then = parts(r);
+        long[] then = Parts.ofEstimate(r);
         r.turnEstimate(-1000000, 5, 4000000);
         r.store(4);
-        long[] later = parts(r);
+        long[] later = Parts.ofEstimate(r);
         Check.due("recall(3)", r.recall(3), 0);
-        dueParts("after recall(3)", r, then);
+        Parts.dueEstimate("after recall(3)", r, then);
         Check.due("recall(4)", r.recall(4), 0);
-        dueParts("after recall(4)", r, later);
+        Parts.dueEstimate("after recall(4)", r, later);
         for (int number : NO_NUMBERS) {
             Check.due("recall(" + number + ")", r.recall(number), -1);
         }
-        dueParts("after refused calls", r, later);
+        Parts.dueEstimate("after refused calls", r, later);
         Check.due("recall keeps it", r.recall(3), 0);
         r.turnEstimate(1000000, 0, 0);
         Check.due("turning the estimate leaves the stored one", r.recall(3), 0);
-        dueParts("after the last recall", r, then);
+        Parts.dueEstimate("after the last recall", r, then);
         Check.due("recall turns no truth", r.truth(1), 0);
         // The matrix of the recalled attitude counts too.
         r.turnTruth(400000, -300000, 200000);
@@ -173,7 +173,7 @@ public final class ShelfTest {
             r.startCalibration(5);
             r.run(8);
         }
-        dueParts("after reset and a run", again, parts(fresh));
+        Parts.dueEstimate("after reset and a run", again, Parts.ofEstimate(fresh));
         for (int axis = 0; axis < 3; axis++) {
             Check.due("biasEstimate(" + axis + ") after reset", again.biasEstimate(axis), fresh.biasEstimate(axis));
         }
@@ -219,15 +219,5 @@ public final class ShelfTest {
             Check.due(what + ": storedNumber(" + k + ")", r.storedNumber(k), numbers[k]);
         }
         Check.due(what + ": behind the last", r.storedNumber(numbers.length), -1);
-    }
-
-    private static long[] parts(InertialReference r) {
-        return new long[] {r.estimate(0), r.estimate(1), r.estimate(2), r.estimate(3)};
-    }
-
-    private static void dueParts(String what, InertialReference r, long[] parts) {
-        for (int k = 0; k < parts.length; k++) {
-            Check.due("estimate(" + k + ") " + what, r.estimate(k), parts[k]);
-        }
     }
 }
