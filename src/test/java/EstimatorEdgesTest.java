@@ -109,7 +109,7 @@ public final class EstimatorEdgesTest {
         return same;
     }
 
-    /** Promise 17: "If it was 0 and becomes greater, the filtered vector becomes 0": for the least gain and the greatest. */
+    /** Promise 17: "If it was 0 and becomes greater, the filtered vector becomes 0": at each gain. */
     private static void promise17FilterBeginsAtZero() {
         for (int gain : new int[] {1, 8, 20}) {
             InertialReference used = afterTenTicks(8);

@@ -117,7 +117,7 @@ public final class ResultsEdgesTest {
         Check.holds("half a turn tilts by little: " + r.tiltError(), r.tiltError() < 4000000);
     }
 
-    /** Vectors up to the ends of their range, turned by the estimate, for each axis; by hand from the document's matrix. */
+    /** Vectors up to the ends of their range, turned by the estimate, for each axis; by the document's matrix. */
     private static void dueVectors(String call, Turning turning, boolean toBody) {
         InertialReference r = new InertialReference();
         r.turnTruth(-4000000, 4000000, 4000000);
@@ -131,7 +131,8 @@ public final class ResultsEdgesTest {
                 for (int k = 0; k <= 2; k++) {
                     sum += (toBody ? m[k][axis] : m[axis][k]) * v[k];
                 }
-                Check.due(call + "(" + v[0] + ", " + v[1] + ", " + v[2] + ", " + axis + ")", turning.of(r, v, axis), sum >> 28);
+                String asked = call + "(" + v[0] + ", " + v[1] + ", " + v[2] + ", " + axis + ")";
+                Check.due(asked, turning.of(r, v, axis), sum >> 28);
             }
         }
     }

@@ -73,7 +73,9 @@ public final class TickEdgesTest {
         byHand.turnTruth(0, -200000, 0);
         byHand.turnTruth(0, -200000, 0);
         byHand.turnTruth(0, 0, 100000);
-        dueTruth("after three segments", r, new long[] {byHand.truth(0), byHand.truth(1), byHand.truth(2), byHand.truth(3)});
+        for (int k = 0; k < 4; k++) {
+            Check.due("truth(" + k + ") after three segments", r.truth(k), byHand.truth(k));
+        }
         Check.due("ticks left", r.scriptTicks(), 0);
     }
 

@@ -303,7 +303,9 @@ public final class TickEndEdgesTest {
         r.run(1);
         long[] due = propagated(LEVEL, 20000, 30000, c);
         long[] up = Model.inBody(due, 0, 0, -ONE);
-        due = Model.turnedParts(due, (10000000 * up[2] + ONE * up[1]) >> 29, -ONE * up[0] >> 29, -10000000 * up[0] >> 29, true);
+        // The readings are (0, 10000000, -ONE).
+        due = Model.turnedParts(due, (10000000 * up[2] + ONE * up[1]) >> 29, (-ONE * up[0]) >> 29,
+                (-10000000 * up[0]) >> 29, true);
         Parts.dueEstimate("levelled, then turned north", r, headed(due, 20000, 30000, filteredFirst(c), 1));
     }
 
@@ -353,7 +355,7 @@ public final class TickEndEdgesTest {
         }
     }
 
-    /** Step 8: "the earth rate, turned into a body vector by the matrix of the estimated attitude" after this tick's turns. */
+    /** Step 8: "the earth rate, turned .. by the matrix of the estimated attitude": after this tick's turns. */
     private static void step8EarthByTheEstimatedAttitude() {
         InertialReference r = new InertialReference();
         r.turnEstimate(4000000, 0, 4000000);

@@ -3,7 +3,7 @@ import java.util.List;
 
 /**
  * All that an object answers, and what it does in its next ticks: two objects in one state leave the same lines.
- * It takes some 380 calls, so that an object may have had 130 before its 512th.
+ * It takes some 350 calls, so that an object may have had 160 before its 512th.
  */
 final class Trace {
     private static final int[] TICKS = {1, 1, 2, 3, 5, 8, 13, 21, 34, 55};
