@@ -283,7 +283,7 @@ public final class NothingElseTest {
         Parts.dueEstimate("a tick after " + what, asked, Parts.ofEstimate(untouched));
     }
 
-    /** "a filtered vector", "the latest turn vector": no call but setHeading and reset is said to change one of them. */
+    /** "a filtered vector", "the latest turn vector": none but setHeading and reset changes one. */
     private static void whatTicksLeaveForTheNextStays() {
         nextTickIsTheSame("store", r -> r.store(1));
         nextTickIsTheSame("forget", r -> {
